@@ -1,0 +1,230 @@
+import java.util.Random;
+
+/** All promises: random runs of calls, the program beside PlainModel; the seeds are fixed, so every run is the same. */
+public final class ModelTest {
+    private static final int RUNS = 3000;
+    private static final int CALLS = 512;
+
+    private final Due due;
+    private final Random random;
+    private final int run;
+    private final DelayMachine x = new DelayMachine();
+    private final PlainModel model = new PlainModel();
+    private int calls;
+
+    private ModelTest(Due due, int run) {
+        this.due = due;
+        this.run = run;
+        random = new Random(run);
+    }
+
+    public static void main(String[] args) {
+        Due due = new Due();
+        for (int run = 0; run < RUNS && due.wrong() < 20; run++) {
+            new ModelTest(due, run).go();
+        }
+        due.end();
+    }
+
+    private void go() {
+        if (run % 3 != 0) {
+            fillOrders();
+            fillDeck();
+        }
+        while (calls < CALLS) {
+            if (run % 3 == 0) {
+                assemblerCall();
+            } else {
+                machineCall();
+            }
+            if (calls % 8 == 0) {
+                lookAtAll();
+            }
+        }
+    }
+
+    private void same(String call, long got, long want) {
+        calls++;
+        due.is("run " + run + ", call " + calls + ": " + call, got, want);
+    }
+
+    private void same(String call, boolean got, boolean want) {
+        same(call, got ? 1 : 0, want ? 1 : 0);
+    }
+
+    private int below(int n) {
+        return random.nextInt(n);
+    }
+
+    /** Mostly within 0 .. n - 1, now and then just outside or far away. */
+    private int near(int n) {
+        switch (below(20)) {
+            case 0: return -1;
+            case 1: return n;
+            case 2: return random.nextInt();
+            default: return below(n);
+        }
+    }
+
+    private short someWord() {
+        short[] words = {0, 1, -1, 32767, -32768};
+        return below(3) == 0 ? words[below(words.length)] : (short) random.nextInt();
+    }
+
+    private int someOrder() {
+        int destination = below(16);
+        if (below(8) != 0 && (destination == 1 || destination == 15)) {
+            destination = below(15) + 1;
+        }
+        int source = below(6) == 0 ? 13 : below(16);
+        int wait = below(3) == 0 ? below(32) : below(4);
+        int timing = below(3) == 0 ? below(32) : below(3) == 0 ? wait : below(8);
+        return Orders.order(source, destination, below(4), wait, timing, below(2));
+    }
+
+    /** Orders that wait for rows, so that cards are read through and not always missed. */
+    private int rowOrder() {
+        int destination = new int[] {0, 2, 3, 4, 5, 6, 7, 8, 9, 13}[below(10)];
+        return Orders.order(13, destination, 2, 0, below(3) == 0 ? below(32) : 30 + below(2), below(2));
+    }
+
+    private void fillOrders() {
+        boolean rows = run % 3 == 2;
+        for (int line = 0; line < 2; line++) {
+            for (int place = 0; place < 32; place++) {
+                int order = rows && below(4) != 0 ? rowOrder() : someOrder();
+                if (rows && below(12) == 0) {
+                    order = Orders.single(1, Orders.FEED, 0, below(32));
+                }
+                same("order", x.order(line, place, order), model.order(line, place, order));
+            }
+        }
+    }
+
+    private void fillDeck() {
+        for (int i = below(49); i > 0; i--) {
+            cardCall();
+        }
+    }
+
+    private void cardCall() {
+        short row = someWord();
+        same("card", x.card(row), model.card(row));
+    }
+
+    private void wordCall() {
+        int line = below(4) == 0 ? near(9) : 2 + below(7);
+        int place = line < 6 ? near(32) : near(line == 8 ? 2 : 1);
+        short v = someWord();
+        same("word", x.word(line, place, v), model.word(line, place, v));
+    }
+
+    private void orderCall() {
+        int line = near(2);
+        int place = near(32);
+        int order = below(10) == 0 ? near(2097152) : someOrder();
+        same("order", x.order(line, place, order), model.order(line, place, order));
+    }
+
+    private void startCall() {
+        int line = near(2);
+        int place = near(32);
+        same("start(" + line + ", " + place + ")", x.start(line, place), model.start(line, place));
+    }
+
+    private void runCall() {
+        int n = below(10) == 0 ? near(2001) : below(3) == 0 ? below(200) : below(20);
+        same("run(" + n + ")", x.run(n), model.run(n));
+    }
+
+    private void machineCall() {
+        switch (below(16)) {
+            case 0:
+                orderCall();
+                break;
+            case 1:
+            case 2:
+                wordCall();
+                break;
+            case 3:
+                cardCall();
+                break;
+            case 4:
+                if (x.look(0) == 0 || below(5) == 0) {
+                    startCall();
+                }
+                break;
+            case 5:
+                if (x.look(0) == 0) {
+                    startCall();
+                }
+                break;
+            default:
+                runCall();
+                break;
+        }
+    }
+
+    private void statementCall() {
+        int operation = run % 2 == 0 && below(2) == 0 ? 4 : near(7);
+        int spread = below(4) == 0 ? 16 : 5;
+        int a = near(spread);
+        int b = below(spread);
+        int c = below(spread);
+        int go = below(8) == 0 ? near(12) : below(3);
+        same("statement", x.statement(operation, a, b, c, go), model.statement(operation, a, b, c, go));
+    }
+
+    private void assemblerCall() {
+        switch (below(24)) {
+            case 0:
+                x.clear();
+                model.clear();
+                break;
+            case 1:
+            case 2:
+                same("assemble()", x.assemble(), model.assemble());
+                break;
+            case 3:
+                startCall();
+                break;
+            case 4:
+                orderCall();
+                break;
+            case 5:
+                cardCall();
+                break;
+            case 6:
+            case 7:
+                wordCall();
+                break;
+            case 8:
+            case 9:
+            case 10:
+                runCall();
+                break;
+            default:
+                statementCall();
+                break;
+        }
+    }
+
+    private void lookAtAll() {
+        calls++;
+        for (int what = -1; what <= 9; what++) {
+            due.is("run " + run + ", call " + calls + ": look(" + what + ")", x.look(what), model.look(what));
+        }
+        for (int line = -1; line <= 9; line++) {
+            for (int place = -1; place <= 32; place++) {
+                String where = "run " + run + ", call " + calls + ": at " + line + ", " + place;
+                due.is(where + " peek", x.peek(line, place), model.peek(line, place));
+                due.is(where + " read", x.read(line, place), model.read(line, place));
+            }
+        }
+        for (int i = -1; i <= 60; i++) {
+            due.is("run " + run + ", call " + calls + ": punched(" + i + ")", x.punched(i), model.punched(i));
+            due.is("run " + run + ", call " + calls + ": placed(" + i + ")", x.placed(i), model.placed(i));
+            due.is("run " + run + ", call " + calls + ": variable(" + i + ")", x.variable(i), model.variable(i));
+        }
+    }
+}
