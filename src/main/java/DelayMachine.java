@@ -33,7 +33,7 @@ public final class DelayMachine {
     private static final int TO_MULTIPLIER = 13;
     private static final int TO_FEED = 14;
     private static final int TO_PUNCH = 15;
-    private static final int STOP_ORDER = TO_STOP << DESTINATION_BITS | ROUND << TIMING_BITS;
+    private static final int STOP_ORDER = (TO_STOP << DESTINATION_BITS) | (ROUND << TIMING_BITS);
 
     private static final int NO_FAULT = 0;
     private static final int FAULT_MISSED = 1;
@@ -57,6 +57,7 @@ public final class DelayMachine {
     private final Punch punch;
     private final Machine machine;
     private final Program program;
+    // a placing that is refused must leave no trace: it is tried apart, and the two change places if it fits
     private Placing kept;
     private Placing trial;
 
@@ -71,7 +72,7 @@ public final class DelayMachine {
     }
 
     public boolean order(int line, int place, int order) {
-        int spot = orderSpot(line, place);
+        int spot = Store.orderSpot(line, place);
         if (spot < 0 || order < 0 || order > HIGHEST_ORDER) {
             return false;
         }
@@ -80,7 +81,7 @@ public final class DelayMachine {
     }
 
     public boolean word(int line, int place, short v) {
-        int spot = wordSpot(line, place);
+        int spot = Store.wordSpot(line, place);
         if (spot < 0) {
             return false;
         }
@@ -93,7 +94,7 @@ public final class DelayMachine {
     }
 
     public boolean start(int line, int place) {
-        if (orderSpot(line, place) < 0) {
+        if (Store.orderSpot(line, place) < 0) {
             return false;
         }
         machine.begin(line, place);
@@ -139,12 +140,12 @@ public final class DelayMachine {
     }
 
     public short peek(int line, int place) {
-        int spot = wordSpot(line, place);
+        int spot = Store.wordSpot(line, place);
         return spot < 0 ? 0 : store.words[spot];
     }
 
     public int read(int line, int place) {
-        int spot = orderSpot(line, place);
+        int spot = Store.orderSpot(line, place);
         return spot < 0 ? -1 : store.orders[spot];
     }
 
@@ -179,30 +180,7 @@ public final class DelayMachine {
     }
 
     public int variable(int v) {
-        return isVariable(v) ? kept.variables[v] : NONE;
-    }
-
-    private static boolean isVariable(int v) {
-        return v >= 0 && v < VARIABLES;
-    }
-
-    private static int orderSpot(int line, int place) {
-        boolean there = line >= 0 && line < ORDER_LINES && place >= 0 && place < PLACES;
-        return there ? line * PLACES + place : NONE;
-    }
-
-    private static int placesOf(int line) {
-        if (line >= FIRST_WORD_LINE && line <= LAST_WORD_LINE) {
-            return PLACES;
-        }
-        if (line == A || line == B) {
-            return 1;
-        }
-        return line == D ? 2 : 0;
-    }
-
-    private static int wordSpot(int line, int place) {
-        return place >= 0 && place < placesOf(line) ? Store.firstSpot(line) + place : NONE;
+        return Program.isVariable(v) ? kept.variables[v] : NONE;
     }
 
     /** Everything that the lines hold. */
@@ -220,7 +198,31 @@ public final class DelayMachine {
             words = new short[WORDS];
         }
 
-        static int firstSpot(int line) {
+        static int orderSpot(int line, int place) {
+            boolean there = line >= 0 && line < ORDER_LINES && place >= 0 && place < PLACES;
+            return there ? line * PLACES + place : NONE;
+        }
+
+        static int wordSpot(int line, int place) {
+            return place >= 0 && place < placesOf(line) ? firstSpot(line) + place : NONE;
+        }
+
+        /** A and B are lines of one place, so that they need no case of their own among sources and destinations. */
+        static int presentedSpot(int line, int cycle) {
+            return firstSpot(line) + (cycle & (placesOf(line) - 1));
+        }
+
+        private static int placesOf(int line) {
+            if (line >= FIRST_WORD_LINE && line <= LAST_WORD_LINE) {
+                return PLACES;
+            }
+            if (line == A || line == B) {
+                return 1;
+            }
+            return line == D ? 2 : 0;
+        }
+
+        private static int firstSpot(int line) {
             switch (line) {
                 case A:
                     return A_SPOT;
@@ -229,26 +231,12 @@ public final class DelayMachine {
                 case D:
                     return D_SPOT;
                 default:
-                    return (line - FIRST_WORD_LINE & 3) * PLACES;
-            }
-        }
-
-        /** A and B are lines of one place, so that they need no case of their own among sources and destinations. */
-        static int presentedSpot(int line, int cycle) {
-            switch (line) {
-                case A:
-                    return A_SPOT;
-                case B:
-                    return B_SPOT;
-                case D:
-                    return D_SPOT + (cycle & 1);
-                default:
-                    return firstSpot(line) + (cycle & ROUND);
+                    return (line - FIRST_WORD_LINE) * PLACES;
             }
         }
 
         int product() {
-            return words[D_SPOT + 1] << 16 | words[D_SPOT] & 0xFFFF;
+            return (words[D_SPOT + 1] << 16) | (words[D_SPOT] & 0xFFFF);
         }
 
         void setProduct(int product) {
@@ -412,13 +400,13 @@ public final class DelayMachine {
 
         void open(int order, int cycle) {
             source = order & 15;
-            destination = order >> DESTINATION_BITS & 15;
-            int wait = order >> WAIT_BITS & ROUND;
-            int timing = order >> TIMING_BITS & ROUND;
+            destination = (order >> DESTINATION_BITS) & 15;
+            int wait = (order >> WAIT_BITS) & ROUND;
+            int timing = (order >> TIMING_BITS) & ROUND;
             int gap = timing < wait ? timing + PLACES : timing;
             first = cycle + 2 + wait;
             leave = cycle + 2 + gap;
-            last = lastOf(order >> KIND_BITS & 3);
+            last = lastOf((order >> KIND_BITS) & 3);
         }
 
         private int lastOf(int kind) {
@@ -466,7 +454,7 @@ public final class DelayMachine {
             going = true;
             fault = NO_FAULT;
             nextLine = line;
-            nextCycle = now + (place - now & ROUND);
+            nextCycle = now + ((place - now) & ROUND);
             latestLine = NONE;
             latestPlace = NONE;
             ordersTaken = 0;
@@ -496,12 +484,12 @@ public final class DelayMachine {
             latestLine = nextLine;
             latestPlace = now & ROUND;
             ordersTaken++;
-            int order = store.orders[(latestLine & 1) * PLACES + latestPlace];
+            int order = store.orders[latestLine * PLACES + latestPlace];
             Window free = before;
             before = current;
             current = free;
             current.open(order, now);
-            nextLine = order >> NEXT_BITS & 1;
+            nextLine = (order >> NEXT_BITS) & 1;
             nextCycle = current.leave;
         }
 
@@ -527,7 +515,7 @@ public final class DelayMachine {
             }
         }
 
-        /** The order before has its next order read already: it is too late for it. */
+        /** An order whose next order has been read is no more the current one: it is too late for it. */
         private void discriminate(Window window, boolean yes) {
             if (yes && window == current) {
                 nextCycle = window.leave + 1;
@@ -614,7 +602,7 @@ public final class DelayMachine {
         int addStatement(int operation, int a, int b, int c, int go) {
             boolean known = operation >= 0 && operation < OPERATIONS;
             boolean variables = isVariable(a) && isVariable(b) && isVariable(c);
-            boolean leads = operation != BRANCH || go >= 0 && go < STATEMENTS;
+            boolean leads = operation != BRANCH || (go >= 0 && go < STATEMENTS);
             if (count >= STATEMENTS || !known || !variables || !leads) {
                 return -1;
             }
@@ -625,6 +613,10 @@ public final class DelayMachine {
             gotos[count] = go;
             count++;
             return count - 1;
+        }
+
+        static boolean isVariable(int v) {
+            return v >= 0 && v < VARIABLES;
         }
 
         boolean allGotosLead() {
@@ -732,10 +724,10 @@ public final class DelayMachine {
                 fits = false;
                 return;
             }
-            int window = spot + 2 & ROUND;
-            int wait = variable == NONE ? 0 : variablePlace(variable, window) - window & ROUND;
-            occupy(spot, source | destination << DESTINATION_BITS | wait << WAIT_BITS);
-            from = window + wait & ROUND;
+            int window = (spot + 2) & ROUND;
+            int wait = variable == NONE ? 0 : (variablePlace(variable, window) - window) & ROUND;
+            occupy(spot, source | (destination << DESTINATION_BITS) | (wait << WAIT_BITS));
+            from = (window + wait) & ROUND;
         }
 
         private void placeStop() {
@@ -752,12 +744,12 @@ public final class DelayMachine {
                 fits = false;
                 return;
             }
-            int other = spot & PLACES | (spot + 1 & ROUND);
+            int other = (spot & PLACES) | ((spot + 1) & ROUND);
             occupy(spot, 0);
             orders[other] = 0;
             count++;
             branches[statement] = other;
-            from = spot + 2 & ROUND;
+            from = (spot + 2) & ROUND;
         }
 
         private void occupy(int spot, int order) {
@@ -770,13 +762,13 @@ public final class DelayMachine {
         }
 
         private void lead(int spot, int target) {
-            int timing = target - spot - 2 & ROUND;
-            orders[spot] |= timing << TIMING_BITS | (target / PLACES) << NEXT_BITS;
+            int timing = (target - spot - 2) & ROUND;
+            orders[spot] |= (timing << TIMING_BITS) | (target / PLACES << NEXT_BITS);
         }
 
         private int freeSpot() {
             for (int step = 0; step < PLACES; step++) {
-                int place = from + step & ROUND;
+                int place = (from + step) & ROUND;
                 for (int line = 0; line < ORDER_LINES; line++) {
                     if (isFree(line, place)) {
                         return line * PLACES + place;
@@ -788,9 +780,9 @@ public final class DelayMachine {
 
         private int forkSpot() {
             for (int step = 1; step < PLACES; step++) {
-                int place = from + step & ROUND;
+                int place = (from + step) & ROUND;
                 for (int line = 0; line < ORDER_LINES; line++) {
-                    if (isFree(line, place) && isFree(line, place + 1 & ROUND)) {
+                    if (isFree(line, place) && isFree(line, (place + 1) & ROUND)) {
                         return line * PLACES + place;
                     }
                 }
@@ -804,7 +796,7 @@ public final class DelayMachine {
 
         private int variablePlace(int variable, int window) {
             for (int step = 0; step < PLACES && variables[variable] == NONE; step++) {
-                int place = window + step & ROUND;
+                int place = (window + step) & ROUND;
                 if (holders[place] == NONE) {
                     holders[place] = variable;
                     variables[variable] = place;
