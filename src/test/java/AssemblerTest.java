@@ -312,7 +312,7 @@ public final class AssemblerTest {
         return tour;
     }
 
-    /** Punches variable 0, subtracts 1 from it until it is below 0. */
+    /** Punches variable 0 and adds variable 1 to it, while it is below 0. */
     private static void runsLoop() {
         DelayMachine x = new DelayMachine();
         x.statement(3, 0, 0, 0, 0);
