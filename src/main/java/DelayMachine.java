@@ -255,7 +255,6 @@ public final class DelayMachine {
 
         void rest() {
             left = 0;
-            fresh = false;
         }
 
         void begin(short word, Store store) {

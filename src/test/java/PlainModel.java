@@ -2,7 +2,6 @@ import java.util.ArrayList;
 import java.util.HashMap;
 import java.util.List;
 import java.util.Map;
-import java.util.TreeMap;
 
 /**
  * The machine written a second time, from the document's words and in another way: an order, when it is read, writes
@@ -59,8 +58,8 @@ final class PlainModel {
     private int latestLine = -1;
     private int latestPlace = -1;
     private int ordersRead;
-    private final Map<Integer, Read> moves = new TreeMap<>();
-    private final Map<Integer, Row> rows = new TreeMap<>();
+    private final Map<Integer, Read> moves = new HashMap<>();
+    private final Map<Integer, Row> rows = new HashMap<>();
     private int readerBusyUntil = -1;
     private int factor;
     private int firstStep;
@@ -156,7 +155,7 @@ final class PlainModel {
             readFrom(latest.next);
         }
         boolean starts = false;
-        Read moving = moves.get(now);
+        Read moving = moves.remove(now);
         if (moving != null) {
             starts = moving.destination == 13;
             deliver(moving, source(moving.source));
