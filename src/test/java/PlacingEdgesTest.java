@@ -11,6 +11,7 @@ public final class PlacingEdgesTest {
         placesGoRoundFromThirtyOne();
         lineZeroIfInBoth();
         variableAtTheFirstFreePlace();
+        variableBehindItsOrder();
         variableGoesRound();
         forkBehindFrom();
         forkInLineOne();
@@ -137,6 +138,15 @@ public final class PlacingEdgesTest {
         DUE.is("taken place: fifth", x.read(0, 5), Orders.single(2, PUNCH, 27, 28));
         DUE.is("taken place: sixth", x.read(0, 3), Orders.single(2, PUNCH, 1, 1));
         DUE.is("taken place: the stop", x.read(0, 6), Orders.stop());
+    }
+
+    /** FROM is 2, but the order is at 3, since 2 is taken in both lines: its variable is at 5, although 4 is free. */
+    private static void variableBehindItsOrder() {
+        DelayMachine x = program(punch(0), punch(0), punch(0), punch(1));
+        DUE.is("behind its order: assemble()", x.assemble(), 5);
+        placed("behind its order", x, 0, 2, 34, 3);
+        variables("behind its order", x, 2, 5);
+        DUE.is("behind its order: order", x.read(0, 3), Orders.single(2, PUNCH, 0, 0));
     }
 
     /** "from p + 2 on, round": p + 2 is 31 and taken, so variable 14 lies at 0. */

@@ -8,6 +8,7 @@ public final class PunchEdgesTest {
         eachKind();
         theLastOneCounts();
         aFaultPunchesNothing();
+        aFaultIsNotTheLastOne();
         sixtyRows();
         lowestAndHighestWord();
         DUE.end();
@@ -86,6 +87,16 @@ public final class PunchEdgesTest {
         DUE.is("punched stays", x.look(7), 1);
         DUE.is("row 0 stays", x.punched(0), 21);
         DUE.is("there is no row 1", x.punched(1), 0);
+    }
+
+    /** "after the cycle of the last one": that in cycle 2, not the one that was refused in cycle 7. */
+    private static void aFaultIsNotTheLastOne() {
+        DelayMachine x = punchedAgainAfter(5);
+        x.order(1, 8, Orders.single(1, Orders.PUNCH, 0, 31));
+        x.start(1, 8);
+        x.run(3);
+        DUE.is("punched in cycle 10: fault", x.look(1), 0);
+        DUE.is("punched in cycle 10", x.look(7), 2);
     }
 
     /** "or when 60 are punched": the 60th is, the 61st is not, although it is 32 cycles later. */

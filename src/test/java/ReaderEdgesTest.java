@@ -16,6 +16,7 @@ public final class ReaderEdgesTest {
         toWhateverDestination();
         stoppedByTheRowItself();
         stoppedBeforeTheRowIsMissed();
+        discriminatesByARow();
         lessThanTwelveRows();
         eachCardHasTheNextRows();
         rowsThatComeLater();
@@ -146,6 +147,20 @@ public final class ReaderEdgesTest {
             DUE.is("0 to STOP: cycles", x.run(300), FIRST + d + 1);
             DUE.is("0 to STOP: fault", x.look(1), d == 2 ? 1 : 0);
         }
+    }
+
+    /** A LONG window up to cycle 49 discriminates by row 0: the next read is later, the window is not longer. */
+    private static void discriminatesByARow() {
+        DelayMachine x = withRows(12);
+        x.order(0, 0, Orders.single(0, Orders.FEED, 0, 31) + LINE_ONE);
+        x.order(1, 1, Orders.all(Orders.ROW, Orders.NOT_ZERO, 0, 14));
+        x.start(0, 0);
+        until(x, FIRST + 8);
+        DUE.is("discriminated by a row: no read in cycle 49", x.look(5), 2);
+        x.run(1);
+        DUE.is("discriminated by a row: a read in cycle 50", x.look(5), 3);
+        DUE.is("discriminated by a row: row 1 is missed", x.run(300), 2);
+        DUE.is("discriminated by a row: fault", x.look(1), 1);
     }
 
     private static void feedOnce(DelayMachine x) {
